@@ -665,7 +665,7 @@ public final class StairRegiment {
         static final int OR = 11;
 
         static final int FACTS = 11;
-        // eight open brackets hold two values each, and a comparison four more
+        // nine conditions, one in the other, hold two values each, and the innermost comparison four more
         static final int STACK = 32;
 
         private final int[] code = new int[TAPE_LIMIT];
@@ -1130,8 +1130,12 @@ public final class StairRegiment {
                 if (isBehindTimes) {
                     law.put(Law.TIMES, 0);
                 }
-                if (!readParts()) {
-                    return false;
+                while (at < count && kind() == '/') {
+                    at++;
+                    if (!takeNumber(1, 9999)) {
+                        return false;
+                    }
+                    law.put(Law.PART, number);
                 }
                 if (kind() != '*') {
                     return true;
@@ -1140,17 +1144,6 @@ public final class StairRegiment {
                 at++;
             }
             return false;
-        }
-
-        private boolean readParts() {
-            while (at < count && kind() == '/') {
-                at++;
-                if (!takeNumber(1, 9999)) {
-                    return false;
-                }
-                law.put(Law.PART, number);
-            }
-            return true;
         }
 
         // -- orders, visits, doors
@@ -1820,7 +1813,7 @@ public final class StairRegiment {
         static int roundsOf(int row) {
             int rounds = 1;
             for (int place = 0; place < Told.PLACES; place++) {
-                int round = roundOf(row, place);
+                int round = Math.max(1, roundOf(row, place));
                 int both = rounds;
                 for (int i = 1; i < round && both % round != 0; i++) {
                     both += rounds;
@@ -1831,7 +1824,7 @@ public final class StairRegiment {
         }
 
         static int standsAt(int row, int n, int place) {
-            int left = n % roundOf(row, place);
+            int left = n % Math.max(1, roundOf(row, place));
             int stands = place;
             for (int i = 0; i < left; i++) {
                 stands = placeBefore(row, stands);
