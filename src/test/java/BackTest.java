@@ -152,8 +152,11 @@ public final class BackTest {
         for (int what = 0; what <= 11; what++) {
             all.append(x.cellar(what)).append(' ');
         }
-        for (int f = 0; f < x.look(0); f++) {
-            all.append(x.who(f, 0, 0)).append(' ');
+        all.append(x.ramp(9, 1)).append(x.ramp(4, 5)).append(' ');
+        for (int f = 0; f < 2 && f < x.look(0); f++) {
+            for (int set = 0; set < 4; set++) {
+                all.append(x.who(f, set, 0)).append(' ');
+            }
         }
         return all.toString();
     }
@@ -184,7 +187,7 @@ public final class BackTest {
 
     private static void imageHoldsAll() {
         StairRegiment x = house();
-        Check.tell(x, 0, "creaks 5*number;");
+        Check.tell(x, 0, "creaks 500 when stride=1 and weight=100;creaks 5*number;");
         Check.tell(x, 1, "on 3 flight 0 step 1 leave;");
         Check.tell(x, 2, "on 3 flight 0 up weight 9 stride 1;");
         Check.tell(x, 3, "flight 0 step 1 door 1 step 1;");
@@ -217,9 +220,12 @@ public final class BackTest {
         check.due("the later image counts", x.look(3), 2);
     }
 
+    /** In each kind another count and other numbers by v. */
     private static void tellForThought(StairRegiment x, int v) {
         x.suspect(NONE, 0);
-        x.suspect(100 * v, 1);
+        for (int i = 0; i < v; i++) {
+            x.suspect(100 * v, v);
+        }
         x.signer(NONE);
         x.signer(v == 1 ? 123 : 3210);
         x.drill(v == 1 ? 12345670 : 76543210);
@@ -229,10 +235,17 @@ public final class BackTest {
         x.length(30 * v);
         x.wall(NONE);
         x.wall(v);
-        x.wall(v);
+        x.wall(9 * v - 5);
         x.digit(NONE);
         x.digit(v);
         x.digit(3);
+        if (v == 2) {
+            x.wall(NONE);
+            x.digit(4);
+            x.calls(0);
+            x.length(20);
+            x.signer(123);
+        }
         x.coins(1, v);
         x.coins(4, 3 * v);
     }

@@ -156,6 +156,13 @@ public final class NightTest {
         check.due("once, however many", x.of(0, 0, 3), 4);
         x.nights(1);
         check.due("counted from then on", x.of(0, 0, 3), 4);
+        Check.tell(x, 0, "creaks 1000; rises weight+stride;");
+        for (int i = 0; i < 3; i++) {
+            x.visit(0, true, 9, 1);
+        }
+        x.nights(1);
+        check.due("rises has no visit", x.of(0, 0, 3), 4);
+        Check.tell(x, 0, "creaks 1000; rises 2+number;");
         x.set(3, 0, 0, 8);
         for (int i = 0; i < 3; i++) {
             x.visit(0, true, 9, 1);

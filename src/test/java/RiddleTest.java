@@ -226,6 +226,8 @@ public final class RiddleTest {
         check.due("spiral(1, 2)", x.spiral(1, 2), -1000);
         check.due("spiral(1, -1)", x.spiral(1, -1), -1000);
         check.due("winds(101, 0)", x.winds(101, 0), NONE);
+        check.due("winds(-101, 0)", x.winds(-101, 0), NONE);
+        check.due("winds(0, 101)", x.winds(0, 101), NONE);
         check.due("winds(0, -101)", x.winds(0, -101), NONE);
         check.due("winds(MIN, 0)", x.winds(Integer.MIN_VALUE, 0), NONE);
         check.due("winds(0, MAX)", x.winds(0, Integer.MAX_VALUE), NONE);
@@ -338,6 +340,12 @@ public final class RiddleTest {
         check.due("just on one", x.runner(120, 0), 1);
         check.due("nothing left", x.runner(120, 1), 0);
         check.due("by one too short", x.runner(119, 0), 2);
+        x.length(NONE);
+        x.length(1);
+        x.length(1);
+        check.due("r 1", x.runner(1, 0), 2);
+        check.due("r 2: the cut costs, too", x.runner(2, 0), 2);
+        check.due("r 2: what is left", x.runner(2, 1), 1);
         check.due("r 0", x.runner(0, 0), NONE);
         check.due("r 121", x.runner(121, 0), NONE);
         check.due("what 2", x.runner(60, 2), NONE);
@@ -465,8 +473,8 @@ public final class RiddleTest {
             for (int p = 0; p < 10; p++) {
                 check.due("next of " + row, x.cellar(p), next == null || p >= n ? NONE : next.charAt(p) - '0');
             }
-            check.due("rows of " + row, x.cellar(10), rows.size());
             check.due("which is " + row, x.cellar(11), rows.headSet(row.toString()).size());
+            check.due("rows of " + row, x.cellar(10), rows.size());
         }
         x.digit(NONE);
         for (int d = 9; d >= 0; d--) {

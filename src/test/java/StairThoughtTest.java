@@ -68,6 +68,12 @@ public final class StairThoughtTest {
         }
         check.due("ninth", x.suspect(1, 1), NONE);
         x.flight(5, 10);
+        check.due("what 2", x.who(0, 0, 2), NONE);
+        check.due("what -1", x.who(0, 0, -1), NONE);
+        x.set(2, 0, 4, 5);
+        check.due("loosen, weight 1 and 200", x.who(0, 0, 1), 4);
+        check.due("what 2", x.who(0, 0, 2), NONE);
+        x.set(2, 0, 4, 0);
         Check.tell(x, 0, "creaks 500 when weight>100;");
         check.due("who", x.who(0, 16, 0), 254);
         check.due("who", x.who(0, 0, 0), 1);
@@ -130,6 +136,7 @@ public final class StairThoughtTest {
         x.set(3, 2, 0, 0);
         check.due("1 at least", x.mutiny(1, 8), 6);
         check.due("back through the door", x.mutiny(2, 2), 6);
+        wholeHouse();
         // unheard: the stride by which he came counts
         StairRegiment y = new StairRegiment();
         y.flight(4, 10);
@@ -137,6 +144,23 @@ public final class StairThoughtTest {
         check.due("by ones", y.unheard(0, 9, 2, 0), 0);
         check.due("by ones, the last by two", y.unheard(0, 9, 2, 1), 3);
         check.due("by three", y.unheard(0, 9, 3, 1), 1);
+    }
+
+    private static void wholeHouse() {
+        StairRegiment x = new StairRegiment();
+        StringBuilder doors = new StringBuilder();
+        for (int f = 0; f < 6; f++) {
+            x.flight(16, 10);
+            if (f > 0) {
+                doors.append("flight " + f + " step 0 door " + (f - 1) + " step 15;");
+            }
+        }
+        check.whole(x, 3, doors.toString(), 5);
+        check.due("all of the house", x.mutiny(0, 1), 96);
+        check.due("all of the house", x.mutiny(5, 1 << 15), 96);
+        check.due("all begin", x.mutiny(3, 65535), 96);
+        x.order(2, 2, 7);
+        check.due("up to the missing one", x.mutiny(0, 1), 39);
     }
 
     private static void byChance() {

@@ -26,7 +26,9 @@ public final class TellTest {
         check.due("new fault(1)", x.fault(1), NONE);
         check.due("new end(0)", x.end(0), true);
         check.due("new end(1)", x.end(1), false);
-        check.due("new drilled", x.drilled(7, 5), 5);
+        for (int p = 0; p < 8; p++) {
+            check.due("new drilled", x.drilled(7, p), p);
+        }
         check.due("new missing(0)", x.missing(0), 0);
         check.due("new game(0)", x.game(0), NONE);
         check.due("new goes", x.goes(60, 3), 0);

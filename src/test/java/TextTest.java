@@ -256,6 +256,13 @@ public final class TextTest {
         check.due("rises held", x.of(0, 2, 8), 0);
         check.due("wears held", x.wears(0, 2, 77, 3), 0);
         check.due("creaks held", x.creaks(0, 2, 77, 3), 0);
+        // law after law on one object: none is hindered by what earlier ones took
+        for (int i = 0; i < 30; i++) {
+            check.due("law " + i, creaks(x, "creaks " + "1+".repeat(150) + i + ";"), 150 + i);
+        }
+        check.due("as long as a tape", creaks(x, "creaks " + "1+".repeat(195) + "1 ;"), 196);
+        check.fault(x, 0, ";".repeat(400), 1, 0);
+        check.fault(x, 0, "creaks " + "1+".repeat(196) + "1", 1, 400);
         check.due("first that is so", creaks(x, "wears 1;creaks 2 when number=1;creaks 3 when number=2;creaks 4;"), 3);
         check.due("none is so", creaks(x, "creaks 2 when number=1;"), 77 + 210 + 300 - 300);
         check.due("none behind one without", creaks(x, "creaks 8;creaks 9;"), 8);
