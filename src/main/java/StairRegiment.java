@@ -129,13 +129,15 @@ public final class StairRegiment {
     }
 
     public int text(int k) {
+        int size = tapeSize;
+        // the tape is spent by every text, also by one that there is not
+        tapeSize = 0;
         faultKind = 0;
         faultPlace = NONE;
         if (!within(k, Parser.LAW, Parser.DOORS)) {
             return NONE;
         }
-        parser.split(tape, tapeSize);
-        tapeSize = 0;
+        parser.split(tape, size);
         boolean isRead = k == Parser.LAW ? parser.readLaw() : parser.readLines(k, now.house);
         if (!isRead) {
             faultKind = parser.faultKind;

@@ -7,6 +7,7 @@ public final class TextTest {
 
     public static void main(String[] args) {
         tape();
+        noSuchText();
         tokens();
         lawFaults();
         lineFaults();
@@ -48,15 +49,41 @@ public final class TextTest {
         check.due("fault(2)", x.fault(2), NONE);
         check.due("fault(-1)", x.fault(-1), NONE);
         check.fault(x, 0, "creaks", 1, 6);
-        Check.feed(x, "creaks 7;");
-        check.due("text(4)", x.text(4), NONE);
-        check.due("fault(0) of text(4)", x.fault(0), 0);
-        check.due("fault(1) of text(4)", x.fault(1), NONE);
-        check.due("text(-1)", x.text(-1), NONE);
-        check.due("the tape stays if there is no such text", x.text(0), 1);
+        check.whole(x, 0, "creaks 7;", 1);
         check.due("creaks", x.creaks(0, 0, 1, 1), 7);
         check.due("an empty law", x.text(0), 0);
         check.due("creaks", x.creaks(0, 0, 1, 1), 1);
+    }
+
+    /** The TAPE is empty behind text(k), where there is no such TEXT k, too; nothing else is changed by it. */
+    private static void noSuchText() {
+        for (int k : new int[] {-1, 4, 5, Integer.MIN_VALUE, Integer.MAX_VALUE}) {
+            StairRegiment x = house();
+            check.whole(x, 0, "creaks 7;", 1);
+            check.whole(x, 1, "on 0 flight 0 step 2 watch;", 1);
+            check.whole(x, 2, "on 0 flight 0 up weight 1 stride 1;", 1);
+            check.whole(x, 3, "flight 0 step 2 door 1 step 0;", 1);
+            check.due("an order", x.order(6, 0, 0), true);
+            check.fault(x, 0, "creaks", 1, 6);
+            for (String text : new String[] {"", "creaks 8;", "creaks 8", "x".repeat(400)}) {
+                Check.feed(x, text);
+                check.due("text(" + k + ") of <" + text + ">", x.text(k), NONE);
+                check.due("fault(0) of text(" + k + ")", x.fault(0), 0);
+                check.due("fault(1) of text(" + k + ")", x.fault(1), NONE);
+                check.due("end(1) behind text(" + k + ")", x.end(1), false);
+                check.due("end(0) behind text(" + k + ")", x.end(0), true);
+                check.due("feed behind text(" + k + ")", x.feed(0, 0, 0, 0, 0), 20);
+                check.due("text(" + k + ") again", x.text(k), NONE);
+                for (int kept = 0; kept <= 3; kept++) {
+                    check.due("lines behind text(" + k + ") of TEXT " + kept, x.look(6 + kept), 1);
+                }
+                check.due("creaks behind text(" + k + ")", x.creaks(0, 0, 1, 1), 7);
+                check.due("what can be undone behind text(" + k + ")", x.look(10), 1);
+            }
+            Check.feed(x, "creaks 8;");
+            x.text(k);
+            check.due("the law of what is left on the tape: none", x.text(0), 0);
+        }
     }
 
     private static void tokens() {
