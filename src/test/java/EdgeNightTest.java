@@ -41,6 +41,7 @@ public final class EdgeNightTest {
         desertsIfNotMissing();
         promotedThenDeserts();
         dawnOneByOne();
+        dawnBehindAFullFlight();
         nightIsOneMore();
         nightsBounds();
         nightsUpTo9999();
@@ -603,6 +604,20 @@ public final class EdgeNightTest {
         line(x, 19, 0, 4, 1, 6);
         line(x, 20, 0, 3, 100, 1);
         check.due("lines", x.look(4), 21);
+    }
+
+    /** Behind the highest of 16 STEPS comes the lowest of the next FLIGHT, by his own number. */
+    private static void dawnBehindAFullFlight() {
+        StairRegiment x = house(16, "creaks 1000 when weight=9;creaks 0;rises 1+number;");
+        x.flight(1, 10);
+        for (int i = 0; i < 9; i++) {
+            x.visit(1, true, i < 3 ? 9 : 8, 1);
+        }
+        x.nights(1);
+        line(x, 9, 0, 3, 100, 1);
+        line(x, 10, 0, 4, 100, 6);
+        check.due("lines", x.look(4), 11);
+        check.due("RANK", x.of(1, 0, 3), 1);
     }
 
     // ---- NIGHT and promise 7

@@ -36,6 +36,7 @@ public final class EdgeTextTest {
         firstThatIsSo();
         noneIsSo();
         sixteenthOfTheLaw();
+        nothingOfTheOlderLaw();
         risesWithoutVisit();
         numberFromZero();
         lawOfTheStepsOwn();
@@ -484,6 +485,25 @@ public final class EdgeTextTest {
         check.due("the sixteenth", creaks("wears 1;".repeat(15) + "creaks 5;"), 5);
         check.due("the sixteenth", creaks("creaks 1 when 1=2;".repeat(15) + "creaks 6;"), 6);
         check.due("the sixteenth is not so", creaks("creaks 1 when 1=2;".repeat(16)), 77);
+    }
+
+    /** Promise 10: "The TAPE .. is TEXT k": nothing of a longer, older one is left. */
+    private static void nothingOfTheOlderLaw() {
+        StairRegiment x = house();
+        check.whole(x, 0, "creaks 8/2;", 1);
+        check.whole(x, 0, "creaks 8;", 1);
+        check.due("no part any more", x.creaks(0, 0, 9, 1), 8);
+        check.whole(x, 0, "creaks 8 when not 1=1;", 1);
+        check.whole(x, 0, "creaks 8 when 1=1;", 1);
+        check.due("no not any more", x.creaks(0, 0, 9, 1), 8);
+        check.whole(x, 0, "creaks 8 when 1=1;", 1);
+        check.whole(x, 0, "creaks 8;", 1);
+        check.due("no B any more", x.creaks(0, 0, 9, 1), 8);
+        check.whole(x, 0, "creaks 7;creaks 6;wears 5;rises 4;", 4);
+        check.whole(x, 0, "creaks 3 when 1=2;", 1);
+        check.due("no second line any more", x.creaks(0, 0, 9, 1), 9);
+        check.due("no wears any more", x.wears(0, 0, 9, 1), 1);
+        check.due("no rises any more", x.of(0, 0, 8), 1);
     }
 
     /** "weight, stride: of the visit (rises: 0)". */

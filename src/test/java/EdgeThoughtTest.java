@@ -36,6 +36,7 @@ public final class EdgeThoughtTest {
         joinedOneAlone();
         joinedDearCouples();
         levelFromOneStepOn();
+        levelUpToTheHighest();
         mutinyBounds();
         nobodyBegins();
         rankOneAtLeast();
@@ -497,6 +498,17 @@ public final class EdgeThoughtTest {
         check.due("always one below", x.joined(4, 5, 1), 0);
         x.set(0, 4, 15, 39);
         check.due("at the very top", x.joined(4, 5, 1), 1);
+    }
+
+    /** No FLIGHT goes on above its highest STEP: the next FLIGHT is another. */
+    private static void levelUpToTheHighest() {
+        StairRegiment x = new StairRegiment();
+        x.flight(16, 5);
+        x.flight(1, 10);
+        x.flight(16, 10);
+        check.due("at 10 .. 80", x.joined(2, 0, 1), 8);
+        check.due("the other way", x.joined(0, 2, 1), 8);
+        check.due("sixteen couples 5 apart", x.joined(0, 2, 0), 16 * 5);
     }
 
     // ---- MUTINY, promise 24
